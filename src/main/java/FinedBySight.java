@@ -34,6 +34,7 @@ public final class FinedBySight {
     private static final int MOST_MEAN_HOURS = 6;
     private static final int STEPS_IN_ROW = 10;
     private static final int MOST_OWED = 999;
+    private static final int MOST_ERR = 9;
     private static final int MOST_PURSE = 9999;
     private static final int MOST_WAGE = 99;
     private static final int MOST_FEE = 999;
@@ -46,6 +47,11 @@ public final class FinedBySight {
     private static final int WALL = 10;
     private static final int DIRECTIONS = 4;
     private static final int STAYING = 4;
+
+    private static final int BYTES = 0;
+    private static final int SHORTS = 1;
+    private static final int INTS = 2;
+    private static final int NO_SHEET = 3;
 
     private static final int LOW_YARDS = 18;
     private static final int YARD_BITS = 6;
@@ -127,7 +133,7 @@ public final class FinedBySight {
     }
 
     public int err(int v) {
-        if (v < 0 || v > 9) {
+        if (v < 0 || v > MOST_ERR) {
             return NONE;
         }
         int before = now.erring;
@@ -140,10 +146,10 @@ public final class FinedBySight {
     }
 
     public int sheet(int kind, int n, int f, int step) {
-        if (kind < 0 || kind > 3 || n > MOST_FOG) {
+        if (kind < BYTES || kind > NO_SHEET || n > MOST_FOG) {
             return NONE;
         }
-        if (kind == 3) {
+        if (kind == NO_SHEET) {
             now.mist.length = 0;
             return MISSING;
         }
@@ -291,7 +297,7 @@ public final class FinedBySight {
             return NONE;
         }
         tellTwo(walk.stepCount + 1, unsafeSteps(walk, walk.strength));
-        return sight.bills(walk, walk.strength);
+        return sight.owesOn(walk, walk.strength);
     }
 
     public int saw(int i) {
@@ -313,7 +319,7 @@ public final class FinedBySight {
         }
         for (int s = 0; s <= STRONGEST; s++) {
             if (unsafeSteps(walk, s) == 0) {
-                tellOne(sight.bills(walk, s));
+                tellOne(sight.owesOn(walk, s));
                 return s;
             }
         }
@@ -419,7 +425,7 @@ public final class FinedBySight {
         int sum = 0;
         for (int i = 0; i < MOST_WALKS; i++) {
             Walk walk = toldWalk(i);
-            sum += walk == null ? 0 : sight.bills(walk, walk.strength);
+            sum += walk == null ? 0 : sight.owesOn(walk, walk.strength);
         }
         for (int times = 1; times <= MOST_FEE; times++) {
             if ((long) times * sum >= n) {
@@ -519,7 +525,7 @@ public final class FinedBySight {
         }
         ways.allowSafe(strength);
         for (int f = THICKEST; f >= 0; f--) {
-            steady.fill(2, 1, f, 0);
+            steady.fill(INTS, 1, f, 0);
             int hours = ways.soonest(from, to, 0, steady, MOST_HOURS);
             if (hours >= 0) {
                 tellOne(hours);
@@ -635,9 +641,9 @@ public final class FinedBySight {
         if (steps < 0) {
             return NOT_SO;
         }
-        int led = sight.bills(ways, from, hour, strength) + wage * steps;
+        int led = sight.owesAlong(ways, from, hour, strength) + wage * steps;
         boolean alone = findSafe(from, to, hour, strength) >= 0;
-        tellOne(alone ? sight.bills(ways, from, hour, strength) : NOT_SO);
+        tellOne(alone ? sight.owesAlong(ways, from, hour, strength) : NOT_SO);
         return led;
     }
 
@@ -1133,7 +1139,7 @@ public final class FinedBySight {
             int sum = 0;
             int entry = f;
             for (int k = 0; k < length; k++) {
-                int value = kind == 0 ? (byte) entry : kind == 1 ? (short) entry : entry;
+                int value = kind == BYTES ? (byte) entry : kind == SHORTS ? (short) entry : entry;
                 digits[k] = Math.max(0, Math.min(value, THICKEST));
                 sum += digits[k];
                 entry += step;
@@ -1493,7 +1499,7 @@ public final class FinedBySight {
             return price.worth();
         }
 
-        int bills(Walk walk, int strength) {
+        int owesOn(Walk walk, int strength) {
             int sum = 0;
             for (int k = 0; k <= walk.stepCount; k++) {
                 sum += owes(walk.place(k), walk.start + k, strength);
@@ -1502,7 +1508,7 @@ public final class FinedBySight {
         }
 
         /** What is owed on the way that was found last. */
-        int bills(Ways ways, int start, int hour, int strength) {
+        int owesAlong(Ways ways, int start, int hour, int strength) {
             int y = start;
             int sum = owes(y, hour, strength);
             for (int k = 0; k < ways.stepCount; k++) {

@@ -162,6 +162,12 @@ public final class ChancesTest {
         DUE.row("44: around", 1 + 1 + 1 + 10, 1);
         x.mean(0, 2, 0, 1, 3);
         DUE.row("44: no time to go around", 10 + 10, 1);
+        DUE.town(".../.../...");
+        DUE.rule("(h<2)*(1-(c=4))*9");
+        x.mean(4, 8, 0, 1, 3);
+        DUE.row("44: staying first", 0, 1);
+        x.mean(4, 8, 0, 1, 2);
+        DUE.row("44: no time for staying", 9, 1);
         DUE.town(".#.");
         DUE.rule("(h=3)*9+1");
         x.mean(0, 2, 0, 1, 3);

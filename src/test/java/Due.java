@@ -20,6 +20,10 @@ final class Due {
 
     /** THE TEXT becomes this one. */
     void tell(String text) {
+        tell(x, text);
+    }
+
+    static void tell(FinedBySight x, String text) {
         x.end(0);
         for (int p = 0; p < text.length(); p += 4) {
             int v = 0;

@@ -17,8 +17,9 @@ public final class FaceTest {
         "hits 0", "takings 1", "fee 1", "way 2", "cheapest 5", "safe 4", "buys 5", "reach 4", "tour 5", "bears 3",
         "waits 4", "chance 5", "likely 1", "mean 5", "best 4", "meet 5", "lead 5", "keep 1", "again 1", "count 1",
         "row 1"};
-    private static final String[] NOT_WRITTEN = {"Exact(", "->", "::", "finally", "synchronized", "assert", "import static",
-        "System.out", "Math.random", "getMessage", "hashCode", "currentTimeMillis", "nanoTime", "catch", "try"};
+    private static final String[] NOT_WRITTEN = {"Exact(", "->", "::", "finally", "synchronized", "assert",
+        "import static", "System.out",
+        "Math.random", "getMessage", "hashCode", "currentTimeMillis", "nanoTime", "catch", "try"};
 
     public static void main(String[] args) throws IOException {
         face();

@@ -5,6 +5,7 @@ public final class KeptTest {
     public static void main(String[] args) {
         keepAndAgain();
         keptApart();
+        wholeWalks();
         townForgets();
         count();
         row();
@@ -77,6 +78,27 @@ public final class KeptTest {
         x.again(0);
         DUE.is("48: kept anew", x.err(7), 7);
         DUE.row("49: the ROW stays", 0, 0);
+    }
+
+    private static void wholeWalks() {
+        FinedBySight x = DUE.fresh("......");
+        DUE.walk("rlrlrlrlrlrlrlrlrlrlrlrlrlrlrr", 0, 0, 3, 2);
+        DUE.walk("rrl", 2, 1, 4, 1);
+        x.err(5);
+        x.keep(0);
+        DUE.walk("wwwwwwwwwwwwwwwwwwwwwwwwwwwwww", 0, 5, 0, 9);
+        DUE.walk("lwwww", 2, 5, 0, 0);
+        x.again(0);
+        DUE.is("49: STRENGTH", x.bill(2), 2 + 2 + 2 + 2);
+        DUE.row("49: STEPS", 4, 0);
+        DUE.is("49: all 30 STEPS", x.at(0, 33), 2);
+        DUE.is("49: the HOUR ahead of it", x.at(0, 32), 1);
+        x.bill(0);
+        DUE.row("49: 31 HOURS", 31, 0);
+        DUE.fog("1");
+        x.likely(2);
+        // With no light: r r l ends in 2 if all go, or but one of the first two and not the last.
+        DUE.row("49: STEPS that ERR", 1 + 2, 8);
     }
 
     private static void townForgets() {

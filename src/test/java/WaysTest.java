@@ -144,6 +144,7 @@ public final class WaysTest {
         DUE.rule("9-s");
         DUE.is("37: stronger may be cheaper", x.buys(0, 1, 0, 1, 4), 7);
         DUE.row("37: stronger may be cheaper", 4);
+        DUE.is("37: the strongest", x.buys(0, 1, 0, 1, 0), 9);
         DUE.is("37: n 25", x.buys(0, 4, 0, 25, 99), -1);
         DUE.is("37: n -1", x.buys(0, 4, 0, -1, 99), -1);
         DUE.is("37: purse 10000", x.buys(0, 4, 0, 7, 10000), -1);
@@ -268,9 +269,26 @@ public final class WaysTest {
         DUE.fog("033333333333333333333333");
         DUE.is("41: once a day", x.waits(0, 1, 5, 2), 19);
         DUE.row("41: once a day", 1);
+        x.lit(0);
+        DUE.is("41: now or a day later", x.waits(0, 1, 0, 2), 0);
+        DUE.row("41: now or a day later", 1);
+        DUE.fog("3");
+        x.lamp(0, 4);
+        DUE.is("41: each HOUR", x.waits(0, 1, 0, 2), 23);
+        x.lamp(0, 0);
+        DUE.fog("999990");
+        DUE.town(".....");
+        DUE.is("41: 19 at best", x.waits(0, 4, 0, 9), 23);
+        DUE.row("41: 19 at best", 19);
+        DUE.fog("999999999999999999999990");
+        DUE.town("...");
+        DUE.is("41: not twice a day", x.waits(0, 2, 0, 9), -2);
+        DUE.fog("99999999999999999999990");
+        DUE.is("41: twice in 24 HOURS", x.waits(0, 2, 0, 9), 22);
+        DUE.row("41: twice in 24 HOURS", 24);
         DUE.is("41: like ones", x.waits(0, 0, 5, 0), 23);
         DUE.row("41: like ones", 0);
-        DUE.is("41: in none", x.waits(0, 4, 0, 0), -2);
+        DUE.is("41: in none", x.waits(0, 2, 0, 0), -2);
         DUE.row("41: in none, the ROW stays", 0);
     }
 
