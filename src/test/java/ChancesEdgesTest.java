@@ -19,6 +19,7 @@ public final class ChancesEdgesTest {
         meanHours();
         meanThere();
         meanLeast();
+        meanEachStep();
         bestNone();
         bestFirst();
         bestEdges();
@@ -178,6 +179,17 @@ public final class ChancesEdgesTest {
         x.likely(2);
         // The first STEP may ERR; from 2 the last one is on the ROPE, from 1 it ERRS half the time, and ends well so.
         DUE.row("43: FOG by HOURS", 3, 4);
+        FinedBySight other = DUE.fresh("..");
+        other.err(5);
+        DUE.walk("r", 0, 0, 0, 0);
+        DUE.walk("l", 1, 1, 0, 0);
+        DUE.walk("", 2, 0, 0, 0);
+        for (int k = 0; k < 2; k++) {
+            for (int i = 0; i < 3; i++) {
+                other.likely(i);
+                DUE.row("43: whatever was asked ahead, WALK " + i, 1, i < 2 ? 2 : 1);
+            }
+        }
     }
 
     private static void likelyRefused() {
@@ -204,6 +216,19 @@ public final class ChancesEdgesTest {
         DUE.is("44: in 7", x.mean(0, 1, 999, 0, 7), -1);
         DUE.is("44: in -1", x.mean(0, 1, 999, 0, -1), -1);
         DUE.row("44: the ROW stays", due[6]);
+        FinedBySight other = DUE.fresh("..");
+        other.err(9);
+        DUE.rule("1");
+        other.safe(0, 0, 0, -1);
+        other.mean(0, 1, 0, 0, 2);
+        DUE.row("44: by its own STRENGTH, whatever was asked ahead", 19, 10);
+        other.safe(0, 0, 0, 0);
+        other.mean(0, 1, 0, 1, 2);
+        DUE.row("44: by its own STRENGTH, SAFE", 1, 1);
+        other.safe(0, 0, 0, 0);
+        other.chance(0, 1, 0, 1, 2);
+        DUE.row("42: by its own STRENGTH, SAFE", 1, 1, 0);
+        x = DUE.fresh("..");
         DUE.rule("h-999");
         x.mean(0, 1, 999, 9, 1);
         DUE.row("44: this HOUR does not count", 1, 1);
@@ -240,6 +265,24 @@ public final class ChancesEdgesTest {
         x.mean(0, 1, 0, 0, 2);
         // Each HOUR has to be tried for the greatest chance: 61, or 1 and then 61 or 1.
         DUE.row("44: the chance comes first", (2 * 61 + 2 + 61 + 1) / 2, 2);
+    }
+
+    /** Each of the five STEPS may be the one. */
+    private static void meanEachStep() {
+        FinedBySight x = DUE.fresh(".../.../...");
+        DUE.rule("c+1");
+        int[] next = {1, 5, 7, 3};
+        for (int y : next) {
+            x.mean(4, y, 0, 1, 1);
+            DUE.row("44: to " + y, y + 1, 1);
+            x.mean(4, y, 0, 1, 6);
+            DUE.row("44: to " + y + ", time enough", y + 1, 1);
+        }
+        DUE.rule("(h<3)*(1-(c=4))*9");
+        x.mean(4, 8, 0, 1, 4);
+        DUE.row("44: staying twice", 0, 1);
+        x.mean(4, 8, 0, 1, 3);
+        DUE.row("44: staying once", 9, 1);
     }
 
     /** -2: no ROPE can be laid (6 are there, too). */
@@ -328,6 +371,10 @@ public final class ChancesEdgesTest {
         DUE.row("46: corners", 2);
         DUE.is("46: corners, the other way", x.meet(8, 0, 0, 9, 9), 2);
         DUE.row("46: corners, the other way", 2);
+        DUE.is("46: YARD 0", x.meet(0, 1, 0, 9, 9), 1);
+        DUE.row("46: YARD 0", 0);
+        DUE.is("46: YARD 0 at once", x.meet(0, 0, 0, 9, 9), 0);
+        DUE.row("46: YARD 0 at once", 0);
         DUE.is("46: neighbours", x.meet(7, 8, 0, 9, 9), 1);
         DUE.row("46: neighbours", 7);
         DUE.is("46: one waits", x.meet(7, 8, 0, 9, 0), 1);

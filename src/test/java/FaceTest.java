@@ -19,7 +19,12 @@ public final class FaceTest {
         "row 1"};
     private static final String[] NOT_WRITTEN = {"Exact(", "->", "::", "finally", "synchronized", "assert",
         "import static", "System.out",
-        "Math.random", "getMessage", "hashCode", "currentTimeMillis", "nanoTime", "catch", "try"};
+        "Math.random", "getMessage", "hashCode", "currentTimeMillis", "nanoTime"};
+    // What the machine throws, and the classes above these: a call may not be answered by catching them.
+    private static final String[] NOT_CAUGHT = {"Throwable", "Exception", "RuntimeException",
+        "IndexOutOfBoundsException", "ArrayIndexOutOfBoundsException", "StringIndexOutOfBoundsException",
+        "NullPointerException", "ArithmeticException", "ClassCastException", "NegativeArraySizeException",
+        "ArrayStoreException", "Error", "StackOverflowError", "OutOfMemoryError"};
 
     public static void main(String[] args) throws IOException {
         face();
@@ -89,6 +94,9 @@ public final class FaceTest {
             boolean letters = word.matches("[a-z]+");
             boolean found = letters ? code.matches("(?s).*\\b" + word + "\\b.*") : code.contains(word);
             DUE.is("LANGUAGE.md: " + word, found, false);
+        }
+        for (String word : NOT_CAUGHT) {
+            DUE.is("catches " + word, code.matches("(?s).*catch *\\([^)]*\\b" + word + "\\b[^)]*\\).*"), false);
         }
         DUE.is("one import", code.split("\\bimport\\b").length - 1, 1);
         DUE.is("no package", code.matches("(?s).*\\bpackage\\b.*"), false);

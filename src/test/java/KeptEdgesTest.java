@@ -2,6 +2,7 @@
 public final class KeptEdgesTest {
     private static final Due DUE = new Due();
     private static final String THIRTY = "rlrlrlrlrlrlrlrlrlrlrlrlrlrlrr";
+    private static final String STAYING = "wwwwwwwwwwwwwwwwwwwwwwwwwwwwww";
     private static final int MAX = Integer.MAX_VALUE;
     private static final int MIN = Integer.MIN_VALUE;
 
@@ -9,6 +10,7 @@ public final class KeptEdgesTest {
         keepNumbers();
         keepTheEmpty();
         keepTheFull();
+        keepTheWalk();
         keepOverAgain();
         againNothingElse();
         againToldAnew();
@@ -70,10 +72,13 @@ public final class KeptEdgesTest {
         for (int k = 0; k < 6; k++) {
             x.unrope();
         }
+        for (int k = 0; k < 6; k++) {
+            x.rope(3, 4);
+        }
         Scenes.fog(x, "9");
         x.err(0);
         for (int i = 0; i < 4; i++) {
-            Scenes.walk(x, "w", i, 5, 0, 0);
+            Scenes.walk(x, STAYING, i, 5, 0, 0);
         }
         DUE.is("49: the full", x.again(1), true);
         DUE.is("49: 6 ROPES", x.count(4), 6);
@@ -97,6 +102,24 @@ public final class KeptEdgesTest {
             x.unrope();
         }
         DUE.is("49: none is left", x.reach(0, 0, 0, 24), 1);
+    }
+
+    /** A WALK is kept with its YARD, HOUR, STRENGTH and each of its STEPS. */
+    private static void keepTheWalk() {
+        FinedBySight x = DUE.fresh("......");
+        x.err(5);
+        DUE.rule("s");
+        DUE.walk("rrrrrrrrrrrrrrr", 1, 0, 3, 7);
+        x.keep(0);
+        DUE.walk("wwwwwwwwwwwwwww", 1, 5, 9, 2);
+        x.again(0);
+        DUE.is("49: its STRENGTH", x.bill(1), 16 * 7);
+        DUE.fog("9");
+        DUE.is("49: its STEPS", x.likely(1), 0);
+        // 5 of 15 at least: all but 1 + 15 + 105 + 455 + 1365 of 32768.
+        DUE.row("49: its STEPS", 32768 - 1941, 32768);
+        DUE.is("49: its HOUR and YARD", x.at(1, 3), 0);
+        DUE.is("49: its last YARD", x.at(1, 18), 5);
     }
 
     /** What is kept is not changed by what comes later, nor by being used. */

@@ -152,6 +152,11 @@ public final class SightEdgesTest {
         DUE.row("18: the most", 999);
         DUE.rule("999+c");
         DUE.is("18: put to 999 all are equal", x.dearest(0, 0), 1);
+        DUE.town("....");
+        DUE.rule("9-c");
+        DUE.is("18: YARD 0", x.dearest(0, 0), 0);
+        DUE.row("18: YARD 0", 9);
+        DUE.town("#.../....");
         DUE.rule("c");
         DUE.is("18: the last", x.dearest(0, 9), 7);
         DUE.row("18: the last", 7);

@@ -140,8 +140,8 @@ public final class TermsTest {
 
     /** SEES all on its LINE of s less FOG, none if that is below 1. */
     private static void seesAgainstFog() {
-        FinedBySight x = DUE.fresh("......");
         for (int s = 0; s <= 9; s++) {
+            FinedBySight x = DUE.fresh("......");
             for (int f = 0; f <= 9; f++) {
                 x.sheet(2, 1, f, 0);
                 int far = Math.max(0, Math.min(s - f, 5));
@@ -192,10 +192,14 @@ public final class TermsTest {
         for (int s = -1; s <= 9; s++) {
             DUE.is("Terms 1: y at first, " + s, x.owed(0, 0, s), Math.max(0, Math.min(s, 5)));
         }
-        DUE.rule("7");
-        DUE.is("Terms 1: told", x.owed(0, 0, 3), 7);
-        DUE.rule("");
-        DUE.is("Terms 1: none again", x.owed(0, 0, 3), 3);
+        String[] told = {"7", "s", "-y", "--y", "y+s", "s*s*s", "(y)", "y<s"};
+        int[] due = {7, 9, 0, 5, 14, 729, 5, 1};
+        for (int k = 0; k < told.length; k++) {
+            DUE.rule(told[k]);
+            DUE.is("Terms 1: told " + told[k], x.owed(0, 0, 9), due[k]);
+            DUE.rule("");
+            DUE.is("Terms 1: none again", x.owed(0, 0, 9), 5);
+        }
     }
 
     private static void owes(String rule, int due) {
@@ -234,6 +238,12 @@ public final class TermsTest {
         owes("4>5", 0);
         owes("5>4", 1);
         owes("4=5", 0);
+        owes("(5<5)+5", 5);
+        owes("(5>5)+5", 5);
+        owes("(4=5)+5", 5);
+        owes("(4<5)+5", 6);
+        owes("(5>4)+5", 6);
+        owes("(5=5)+5", 6);
         owes("(1<2)=(2>1)", 1);
         owes("(1<2)<(2>1)", 0);
         owes("1<(2<3)", 0);
@@ -285,6 +295,8 @@ public final class TermsTest {
         DUE.is("Terms 1: three and a thing", DUE.rule("123y"), -4);
         DUE.is("Terms 1: a thing and a digit", DUE.rule("y1"), -2);
         DUE.is("Terms 1: a bracket and a digit", DUE.rule("(y)1"), -4);
+        DUE.is("Terms 1: a NUMBER in brackets and a digit", DUE.rule("(1)2"), -4);
+        DUE.is("Terms 1: a NUMBER in brackets and a thing", DUE.rule("(1)y"), -4);
     }
 
     /** At most 4 brackets in one another. */
@@ -318,6 +330,9 @@ public final class TermsTest {
             DUE.is("Terms 1: " + rules[k] + " in the dark", x.owed(26, 998, 3), dark[k]);
             DUE.is("Terms 1: " + rules[k] + " where it is LIT", x.owed(20, 998, 3), light[k]);
         }
+        DUE.rule("l+5");
+        DUE.is("Terms 1: l is 0 in the dark", x.owed(26, 998, 3), 5);
+        DUE.is("Terms 1: l is 1 where it is LIT", x.owed(20, 998, 3), 6);
         DUE.rule("h");
         DUE.is("Terms 1: HOUR 0", x.owed(0, 0, 3), 0);
         DUE.is("Terms 1: HOUR 999", x.owed(0, 999, 3), 999);

@@ -26,9 +26,11 @@ public final class TownEdgesTest {
         ruleLength();
         ruleEndsTooEarly();
         ruleFirstFault();
+        ruleBehindFault();
         yardKinds();
         lampBecomes();
         errBecomes();
+        thickHours();
         sheetBytes();
         sheetShorts();
         sheetInts();
@@ -261,16 +263,15 @@ public final class TownEdgesTest {
     }
 
     private static void fogLength() {
-        FinedBySight x = DUE.fresh();
         String digits = "9876543210987654321098765432109876543210987654321098765432109876543210987654321098765432";
         for (int n = 0; n <= 80; n++) {
+            FinedBySight x = DUE.fresh();
             DUE.fog("7");
             DUE.is("5: " + n + " digits", DUE.fog(digits.substring(0, n)), n <= 24 ? n : -25);
             DUE.is("5: digits of " + n, x.count(6), n <= 24 ? n : 1);
             DUE.is("5: the last of " + n, x.thick(n == 0 ? 5 : n - 1),
                     n == 0 ? 0 : n <= 24 ? digits.charAt(n - 1) - '0' : 7);
             DUE.is("5: THE TEXT is empty", x.count(8), 0);
-            x = n % 20 == 19 ? DUE.fresh() : x;
         }
     }
 
@@ -354,6 +355,23 @@ public final class TownEdgesTest {
         }
     }
 
+    /** A text that was refused is nothing to the next one. */
+    private static void ruleBehindFault() {
+        String[] texts = {"-", "--", "1-", "3*", "2+(", "((((", "-(", "1<", "(1<2", "12x", "1<2<3", "999*-("};
+        for (String text : texts) {
+            FinedBySight x = DUE.fresh();
+            DUE.rule(text);
+            DUE.is("6: behind \"" + text + "\"", DUE.rule("5"), 0);
+            DUE.is("6: owed behind \"" + text + "\"", x.owed(0, 0, 0), 5);
+            DUE.rule(text);
+            DUE.is("6: one that compares, behind \"" + text + "\"", DUE.rule("(((8<9))+2)*3"), 0);
+            DUE.is("6: owed by it", x.owed(0, 0, 0), 9);
+            DUE.rule(text);
+            DUE.is("6: none behind \"" + text + "\"", DUE.rule(""), 0);
+            DUE.is("6: y", x.owed(0, 0, 9), 0);
+        }
+    }
+
     private static void yardKinds() {
         FinedBySight x = DUE.fresh(".1.9#");
         int[] due = {0, 1, 0, 9, 10};
@@ -391,6 +409,24 @@ public final class TownEdgesTest {
             DUE.is("9: 10", x.err(10), -1);
             DUE.is("9: -1", x.err(-1), -1);
             before = v;
+        }
+    }
+
+    /** NONE: another HOUR. */
+    private static void thickHours() {
+        FinedBySight x = DUE.fresh();
+        int[] hours = {MIN, -1, 0, 1, 4, 5, 998, 999, 1000, 1001, MAX};
+        int[] none = {-1, -1, 0, 0, 0, 0, 0, 0, -1, -1, -1};
+        int[] five = {-1, -1, 5, 6, 9, 5, 8, 9, -1, -1, -1};
+        int[] one = {-1, -1, 9, 9, 9, 9, 9, 9, -1, -1, -1};
+        String[] fogs = {"", "56789", "9"};
+        int[][] due = {none, five, one};
+        for (int k = 0; k < fogs.length; k++) {
+            DUE.fog(fogs[k]);
+            for (int h = 0; h < hours.length; h++) {
+                DUE.is("10: \"" + fogs[k] + "\" in HOUR " + hours[h], x.thick(hours[h]), due[k][h]);
+            }
+            DUE.row("10: it tells no ROW");
         }
     }
 

@@ -188,6 +188,17 @@ public final class WalksEdgesTest {
         DUE.walk("", 3, 35, 999, 1);
         DUE.is("25: YARD 35", x.saw(3), 2);
         DUE.row("25: YARD 35", 0, Due.set(11, 16));
+        DUE.fog("9094");
+        DUE.walk("www", 2, 0, 998, 5);
+        // HOURS 998 .. 1001: FOG 9, 4, 9, 0.
+        DUE.is("25: in one of its HOURS", x.saw(2), 10);
+        DUE.walk("ww", 2, 0, 998, 5);
+        DUE.is("25: not in the HOUR behind it", x.saw(2), 2);
+        DUE.row("25: not in the HOUR behind it", Due.set(1, 6), 0);
+        DUE.walk("", 2, 0, 998, 5);
+        DUE.is("25: nor in the HOUR behind one alone", x.saw(2), 0);
+        DUE.fog("");
+        x.saw(3);
         DUE.is("25: none such", x.saw(4), -1);
         DUE.is("25: none such below", x.saw(-1), -1);
         x.drop(0);
@@ -249,6 +260,10 @@ public final class WalksEdgesTest {
         DUE.is("27: no STEPS", x.adopt(0, 1, 1, 999, 9), 0);
         DUE.is("27: there in that HOUR", x.at(0, 999), 1);
         DUE.is("27: not ahead of it", x.at(0, 998), -2);
+        DUE.is("27: no STEPS, HOUR 5", x.adopt(0, 1, 1, 5, 0), 0);
+        DUE.is("27: in that HOUR alone", x.at(0, 6), -2);
+        x.bill(0);
+        DUE.row("27: one HOUR", 1, 0);
         DUE.is("27: over 999", x.adopt(1, 0, 1, 999, -1), 1);
         DUE.is("27: it begins", x.at(1, 999), 0);
         DUE.is("27: THE TEXT is no matter", tellThenAdopt(x), 1);
@@ -363,6 +378,16 @@ public final class WalksEdgesTest {
         DUE.fog("90000000");
         x.hit(2, 3);
         DUE.row("29: not FOG of the HOUR itself", 1, 8);
+        DUE.walk("r", 2, 0, 7, 9);
+        DUE.walk("l", 3, 2, 7, -1);
+        x.hit(2, 3);
+        DUE.row("29: not FOG of the HOUR itself, the first one", 1, 4);
+        DUE.fog("00000009");
+        x.hit(2, 3);
+        DUE.row("29: FOG of the HOUR ahead, the first one", 1, 12);
+        DUE.fog("00000090");
+        x.hit(2, 3);
+        DUE.row("29: not FOG of two HOURS ahead", 1, 4);
         DUE.fog("");
         DUE.walk("wr", 2, 0, 6, 1);
         DUE.walk("rl", 3, 1, 6, 1);
@@ -453,6 +478,16 @@ public final class WalksEdgesTest {
             }
             DUE.is("31: " + many + " WALKS", x.hits(), pairs[many]);
             DUE.row("31: " + many + " WALKS", many < 2 ? 0 : (1 << many) - 1);
+        }
+        DUE.walk("", 0, 5, 0, 0);
+        DUE.walk("", 1, 5, 0, 0);
+        DUE.is("31: in HOUR 0", x.hits(), 2);
+        DUE.row("31: in HOUR 0", 15);
+        x.drop(2);
+        DUE.is("31: in HOUR 0 alone", x.hits(), 1);
+        DUE.row("31: in HOUR 0 alone", 3);
+        for (int i = 0; i < 3; i++) {
+            DUE.walk("w", i, 2, 5, 0);
         }
         DUE.walk("w", 3, 2, 7, 0);
         DUE.is("31: one comes later", x.hits(), 3);

@@ -18,6 +18,7 @@ public final class WaysEdgesTest {
         cheapestWithin();
         cheapestTenSteps();
         cheapestSoonest();
+        cheapestStaying();
         cheapestMost();
         safeWithin();
         safeTenSteps();
@@ -153,6 +154,19 @@ public final class WaysEdgesTest {
         DUE.row("35: the second HOUR", 1, 1);
     }
 
+    /** By any STEPS: staying where each direction leads on is 4. */
+    private static void cheapestStaying() {
+        FinedBySight x = DUE.fresh(".../.../...");
+        DUE.rule("(c=5)*(h<2)*50+1");
+        DUE.is("35: waiting", x.cheapest(4, 5, 0, 0, 24), 3);
+        DUE.row("35: waiting", 2, 4, 1);
+        DUE.rule("(c=5)*(h<3)*50+(c=4)");
+        DUE.is("35: waiting elsewhere is cheaper", x.cheapest(4, 5, 0, 0, 24), 1);
+        DUE.row("35: waiting elsewhere is cheaper", 3, 0, 1, 2);
+        DUE.is("35: no time for it", x.cheapest(4, 5, 0, 0, 2), 51);
+        DUE.row("35: no time for it", 1, 1);
+    }
+
     private static void cheapestMost() {
         FinedBySight x = DUE.fresh(SNAKE);
         DUE.rule("999");
@@ -210,6 +224,16 @@ public final class WaysEdgesTest {
         DUE.row("36: down is staying there", 2, 1);
         DUE.is("36: at the left edge", x.safe(3, 4, 0, 1), 2);
         DUE.row("36: left is staying there", 3, 1);
+        DUE.fog("990");
+        DUE.is("36: two HOURS of FOG", x.safe(4, 5, 0, 1), 3);
+        DUE.row("36: staying in both", 4, 4, 1);
+        DUE.is("36: one HOUR of FOG", x.safe(4, 5, 1, 1), 2);
+        DUE.row("36: staying in one", 4, 1);
+        DUE.is("36: in a clear HOUR", x.safe(4, 5, 2, 1), 1);
+        DUE.row("36: in a clear HOUR", 1);
+        DUE.is("36: two STEPS", x.safe(4, 8, 2, 1), 4);
+        DUE.row("36: one STEP, two HOURS of FOG, one STEP", 1, 1, 1, 2);
+        DUE.fog("90");
         DUE.town(".../.../.#.");
         DUE.is("36: ahead of a WALL", x.safe(4, 5, 0, 1), 2);
         DUE.row("36: into a WALL is staying", 2, 1);
@@ -361,6 +385,16 @@ public final class WaysEdgesTest {
         DUE.is("39: as one comes to them", x.tour(4, 0, 1, 2, list(8, 5)), 2);
         DUE.row("39: as one comes to them", 5, 8);
         DUE.is("39: none of the list by the way", x.tour(4, 0, 1, 1, list(8)), 2);
+        DUE.town("......");
+        DUE.is("39: the greatest first", x.tour(5, 0, 1, 4, list(0, 1, 3, 4)), 5);
+        DUE.row("39: the greatest first", 4, 3, 1, 0);
+        DUE.is("39: one's own first", x.tour(5, 0, 1, 2, list(0, 5)), 5);
+        DUE.row("39: one's own first", 5, 0);
+        DUE.is("39: one's own first, nearer", x.tour(4, 0, 1, 3, list(0, 5, 4)), 6);
+        DUE.row("39: one's own first, nearer", 4, 5, 0);
+        // By 1 to 0 and back by 1: one has been in 1 first.
+        DUE.is("39: a dead end", x.tour(2, 0, 1, 3, list(0, 1, 5)), 7);
+        DUE.row("39: a dead end: in which one is first", 1, 0, 5);
     }
 
     private static void tourWithin() {
