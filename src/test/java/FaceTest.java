@@ -6,7 +6,10 @@ import java.lang.reflect.Modifier;
 import java.nio.file.Files;
 import java.nio.file.Path;
 import java.util.Arrays;
+import java.util.List;
 import java.util.TreeSet;
+import java.util.regex.Matcher;
+import java.util.regex.Pattern;
 
 /** The public face, as the document writes it, and what of LANGUAGE.md can be read off the class and its text. */
 public final class FaceTest {
@@ -26,8 +29,13 @@ public final class FaceTest {
         "NullPointerException", "ArithmeticException", "ClassCastException", "NegativeArraySizeException",
         "ArrayStoreException", "Error", "StackOverflowError", "OutOfMemoryError"};
 
+    // Rule 4, as far as the class uses it: static functions of the library.
+    private static final String[] LIBRARY = {"Math.max", "Math.min", "Long.bitCount", "Integer.bitCount",
+        "System.arraycopy"};
+
     public static void main(String[] args) throws IOException {
         face();
+        faceAsWritten();
         for (Class<?> c : all()) {
             shape(c);
         }
@@ -69,6 +77,25 @@ public final class FaceTest {
         DUE.is("without arguments", made[0].getParameterCount(), 0);
     }
 
+    /** Each line of the face stands in the class as the document writes it, and no other public one does. */
+    private static void faceAsWritten() throws IOException {
+        String document = Files.readString(Path.of("../shared/DOC.md"));
+        String begin = "```java\n";
+        int from = document.indexOf(begin) + begin.length();
+        String[] lines = document.substring(from, document.indexOf("```", from)).split("\n");
+        List<String> code = Files.readAllLines(Path.of("src/main/java/FinedBySight.java"));
+        int written = 0;
+        for (String line : lines) {
+            boolean method = line.contains("(");
+            String due = method ? line.substring(0, line.length() - 1) + " {" : line;
+            DUE.is("the face: " + line, due.equals("}") || due.isEmpty() || code.contains(due), true);
+            written += due.contains("public ") ? 1 : 0;
+        }
+        long shown = code.stream().filter(line -> line.contains("public ")).count();
+        DUE.is("the face: public lines", shown, written);
+        DUE.is("the face: calls", written, FACE.length + 3);
+    }
+
     private static void shape(Class<?> c) {
         int fields = 0;
         for (Field f : c.getDeclaredFields()) {
@@ -101,6 +128,10 @@ public final class FaceTest {
         DUE.is("one import", code.split("\\bimport\\b").length - 1, 1);
         DUE.is("no package", code.matches("(?s).*\\bpackage\\b.*"), false);
         DUE.is("rule 4: signs 1 to 127", text.chars().allMatch(c -> c >= 1 && c <= 127), true);
+        Matcher called = Pattern.compile("\\b((?:Math|Long|Integer|System|Arrays|String)\\.\\w+)\\(").matcher(code);
+        while (called.find()) {
+            DUE.is("rule 4: " + called.group(1), Arrays.asList(LIBRARY).contains(called.group(1)), true);
+        }
         methodsAreShort(code);
     }
 
